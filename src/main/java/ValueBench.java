@@ -32,9 +32,6 @@ public final class ValueBench {
     private final Text scratch = new Text();
     private final Row[] registers = new Row[REGISTERS];
     private final Sorter sorter = new Sorter();
-    private final Singles singles = new Singles(scratch, sorter);
-    private final Pairs pairs = new Pairs(scratch);
-    private final Keyed keyed = new Keyed(sorter);
     private Row spare = new Row();
     private int place = NOWHERE;
     private int reason = DONE;
@@ -96,14 +93,14 @@ public final class ValueBench {
 
     public boolean same(int a, int b) throws IllegalArgumentException {
         demand(isRegister(a) && isRegister(b));
-        return Order.isSame(registers[a], 0, registers[b], 0, 0);
+        return Order.isSame(registers[a], 0, registers[b], 0);
     }
 
     public void one(int to, int f, int a)
             throws IllegalArgumentException, ArithmeticException, IndexOutOfBoundsException {
         demand(isRegister(to) && isWithin(f, 13) && isRegister(a));
         spare.clear();
-        demandDone(singles.apply(f, registers[a], spare));
+        demandDone(Singles.apply(f, registers[a], scratch, sorter, spare));
         keepSpare(to);
     }
 
@@ -111,7 +108,7 @@ public final class ValueBench {
             throws IllegalArgumentException, ArithmeticException, IndexOutOfBoundsException {
         demand(isRegister(to) && isWithin(f, 9) && isRegister(a) && isRegister(x));
         spare.clear();
-        demandDone(pairs.apply(f, registers[a], registers[x], spare));
+        demandDone(Pairs.apply(f, registers[a], registers[x], scratch, spare));
         keepSpare(to);
     }
 
@@ -119,7 +116,7 @@ public final class ValueBench {
             throws IllegalArgumentException, ArithmeticException, IndexOutOfBoundsException {
         demand(isRegister(to) && isWithin(f, 4) && isRegister(a) && isRegister(k));
         spare.clear();
-        demandDone(keyed.apply(f, registers[a], registers[k], spare));
+        demandDone(Keyed.apply(f, registers[a], registers[k], sorter, spare));
         keepSpare(to);
     }
 
@@ -808,8 +805,8 @@ public final class ValueBench {
             }
         }
 
-        static boolean isSame(Row a, int i, Row b, int j, int depth) {
-            return a.cell(i) == b.cell(j) && of(a, i, b, j, depth) == 0;
+        static boolean isSame(Row a, int i, Row b, int j) {
+            return a.cell(i) == b.cell(j) && of(a, i, b, j, 0) == 0;
         }
 
         private static int ofStrings(Row a, int i, Row b, int j) {
@@ -873,12 +870,13 @@ public final class ValueBench {
         }
     }
 
-    /** Puts keys, values that lie in one row, in ORDER; the same keys stay as they came. */
+    /** Puts keys, values that lie in one row, in ORDER, and what they are the keys of; the same keys stay as they came. */
     private static final class Sorter {
         // No array that prints in 4096 bytes has more elements.
         private static final int MOST = 2048;
 
         private final int[] keyAt = new int[MOST];
+        private final int[] elementAt = new int[MOST];
         private int[] turns = new int[MOST];
         private int[] merged = new int[MOST];
         private int total = 0;
@@ -896,14 +894,23 @@ public final class ValueBench {
             }
         }
 
-        /** Which of the keys, as they came, has this turn. */
-        int atTurn(int k) {
-            return k >= 0 && k < total ? turns[k] : 0;
+        /** Takes the elements of an array for those that the keys, as they came, belong to. */
+        void attach(Row row, int array) {
+            int at = array + 1;
+            for (int k = 0; k < total; k++) {
+                elementAt[k] = at;
+                at = row.after(at);
+            }
         }
 
         /** Where the key with this turn lies. */
         int keyAtTurn(int k) {
             return k >= 0 && k < total ? keyAt[turns[k]] : 0;
+        }
+
+        /** Where the element lies whose key has this turn. */
+        int elementAtTurn(int k) {
+            return k >= 0 && k < total ? elementAt[turns[k]] : 0;
         }
 
         /** Finds the keys, and gives them their turns as they came. */
@@ -927,7 +934,7 @@ public final class ValueBench {
             for (int k = left; k < behind; k++) {
                 boolean fromSecond = first >= middle || second < behind
                         && Order.of(row, keyAtTurn(second), row, keyAtTurn(first), 0) < 0;
-                merged[k] = atTurn(fromSecond ? second : first);
+                merged[k] = fromSecond ? turns[second] : turns[first];
                 first += fromSecond ? 0 : 1;
                 second += fromSecond ? 1 : 0;
             }
@@ -1068,7 +1075,7 @@ public final class ValueBench {
         private static boolean hasElement(Row array, Row other, int sought) {
             int at = 1;
             for (int k = 0; k < array.length(0); k++) {
-                if (Order.isSame(array, at, other, sought, 1)) {
+                if (Order.isSame(array, at, other, sought)) {
                     return true;
                 }
                 at = array.after(at);
@@ -1144,15 +1151,7 @@ public final class ValueBench {
     private static final class Singles {
         private static final int CASE_STEP = 'a' - 'A';
 
-        private final Text text;
-        private final Sorter sorter;
-
-        Singles(Text text, Sorter sorter) {
-            this.text = text;
-            this.sorter = sorter;
-        }
-
-        int apply(int f, Row a, Row out) {
+        static int apply(int f, Row a, Text text, Sorter sorter, Row out) {
             switch (f) {
                 case 0:
                     out.putTruth(a.is(0, NULL) || a.is(0, FALSE));
@@ -1160,21 +1159,21 @@ public final class ValueBench {
                 case 1:
                     return length(a, out);
                 case 2:
-                    return a.is(0, OBJECT) ? sorted(a, out) : keys(a, out);
+                    return a.is(0, OBJECT) ? sorted(a, sorter, out) : keys(a, out);
                 case 3:
                     return keys(a, out);
                 case 4:
-                    return a.is(0, STRING) ? itself(a, out) : printed(a, out);
+                    return a.is(0, STRING) ? itself(a, out) : printed(a, text, out);
                 case 5:
-                    return toNumber(a, out);
+                    return toNumber(a, text, out);
                 case 6:
-                    return printed(a, out);
+                    return printed(a, text, out);
                 case 7:
-                    return fromJson(a, out);
+                    return fromJson(a, text, out);
                 case 8:
-                    return a.is(0, ARRAY) ? sorted(a, out) : TYPE;
+                    return a.is(0, ARRAY) ? sorted(a, sorter, out) : TYPE;
                 case 9:
-                    return reversed(a, out);
+                    return reversed(a, sorter, out);
                 case 10:
                     return codes(a, out);
                 case 11:
@@ -1228,7 +1227,7 @@ public final class ValueBench {
         }
 
         /** The elements of an array, or the names of an object, in ORDER. */
-        private int sorted(Row a, Row out) {
+        private static int sorted(Row a, Sorter sorter, Row out) {
             int head = out.open();
             sorter.arrange(a, 0);
             for (int k = 0; k < a.length(0); k++) {
@@ -1238,37 +1237,37 @@ public final class ValueBench {
             return DONE;
         }
 
-        private int printed(Row a, Row out) {
+        private static int printed(Row a, Text text, Row out) {
             text.clear();
             Printer.write(a, 0, text, 0);
             out.putText(text);
             return DONE;
         }
 
-        private int toNumber(Row a, Row out) {
+        private static int toNumber(Row a, Text text, Row out) {
             if (a.is(0, NUMBER)) {
                 return itself(a, out);
             }
             if (!a.is(0, STRING)) {
                 return TYPE;
             }
-            return readerOf(a, out).readNumber() == NOWHERE ? DONE : NO_NUMBER;
+            return readerOf(a, text, out).readNumber() == NOWHERE ? DONE : NO_NUMBER;
         }
 
-        private int fromJson(Row a, Row out) {
+        private static int fromJson(Row a, Text text, Row out) {
             if (!a.is(0, STRING)) {
                 return TYPE;
             }
-            return readerOf(a, out).readValue() == NOWHERE ? DONE : NO_JSON;
+            return readerOf(a, text, out).readValue() == NOWHERE ? DONE : NO_JSON;
         }
 
-        private Reader readerOf(Row a, Row out) {
+        private static Reader readerOf(Row a, Text text, Row out) {
             text.clear();
             text.addString(a, 0);
             return new Reader(text, out);
         }
 
-        private int reversed(Row a, Row out) {
+        private static int reversed(Row a, Sorter sorter, Row out) {
             switch (a.kind(0)) {
                 case NULL:
                     out.close(out.open(), ARRAY, 0);
@@ -1277,7 +1276,7 @@ public final class ValueBench {
                     putReversedString(a, out);
                     return DONE;
                 case ARRAY:
-                    putReversedArray(a, out);
+                    putReversedArray(a, sorter, out);
                     return DONE;
                 default:
                     return TYPE;
@@ -1292,7 +1291,7 @@ public final class ValueBench {
             out.close(head, STRING, a.length(0));
         }
 
-        private void putReversedArray(Row a, Row out) {
+        private static void putReversedArray(Row a, Sorter sorter, Row out) {
             int head = out.open();
             sorter.gather(a, 0);
             for (int k = a.length(0) - 1; k >= 0; k--) {
@@ -1362,20 +1361,14 @@ public final class ValueBench {
 
     /** What two does; a and x are whole rows, out takes the value, the answer is DONE or a REASON. */
     private static final class Pairs {
-        private final Text text;
-
-        Pairs(Text text) {
-            this.text = text;
-        }
-
-        int apply(int f, Row a, Row x, Row out) {
+        static int apply(int f, Row a, Row x, Text text, Row out) {
             switch (f) {
                 case 0:
                     return has(a, x, out);
                 case 1:
                     return contains(a, x, out);
                 case 2:
-                    return joined(a, x, out);
+                    return joined(a, x, text, out);
                 case 3:
                     return withoutBeginning(a, x, out);
                 case 4:
@@ -1495,7 +1488,7 @@ public final class ValueBench {
             return true;
         }
 
-        private int joined(Row a, Row x, Row out) {
+        private static int joined(Row a, Row x, Text text, Row out) {
             if (!a.is(0, ARRAY) || !x.is(0, STRING)) {
                 return TYPE;
             }
@@ -1508,14 +1501,14 @@ public final class ValueBench {
                 if (k > 0) {
                     text.addString(x, 0);
                 }
-                addToText(a, at);
+                addShown(a, at, text);
                 at = a.after(at);
             }
             out.putText(text);
             return DONE;
         }
 
-        private void addToText(Row a, int at) {
+        private static void addShown(Row a, int at, Text text) {
             if (a.is(at, STRING)) {
                 text.addString(a, at);
             } else if (!a.is(at, NULL)) {
@@ -1654,100 +1647,81 @@ public final class ValueBench {
 
     /** What sort does; a and keys are whole rows, out takes the value, the answer is DONE or a REASON. */
     private static final class Keyed {
-        private final Sorter sorter;
-        private final int[] elementAt = new int[Sorter.MOST];
-
-        Keyed(Sorter sorter) {
-            this.sorter = sorter;
-        }
-
-        int apply(int f, Row a, Row keys, Row out) {
+        static int apply(int f, Row a, Row keys, Sorter sorter, Row out) {
             if (!a.is(0, ARRAY) || !keys.is(0, ARRAY) || a.length(0) != keys.length(0)) {
                 return TYPE;
             }
             sorter.arrange(keys, 0);
-            gatherElements(a);
+            sorter.attach(a, 0);
             switch (f) {
                 case 0:
-                    putSorted(a, out);
-                    break;
+                    putSorted(a, sorter, out);
+                    return DONE;
                 case 1:
-                    putGroups(a, keys, out);
-                    break;
+                    putGroups(a, keys, sorter, out);
+                    return DONE;
                 case 2:
-                    putFirsts(a, keys, out);
-                    break;
+                    putFirsts(a, keys, sorter, out);
+                    return DONE;
                 case 3:
-                    putTurnOrNull(a, 0, out);
-                    break;
+                    putTurnOrNull(a, 0, sorter, out);
+                    return DONE;
                 default:
-                    putTurnOrNull(a, a.length(0) - 1, out);
-            }
-            return DONE;
-        }
-
-        private void gatherElements(Row a) {
-            int at = 1;
-            for (int k = 0; k < a.length(0) && k < Sorter.MOST; k++) {
-                elementAt[k] = at;
-                at = a.after(at);
+                    putTurnOrNull(a, a.length(0) - 1, sorter, out);
+                    return DONE;
             }
         }
 
-        private void putTurn(Row a, int k, Row out) {
-            out.putCopy(a, elementAt[sorter.atTurn(k)]);
-        }
-
-        /** As sorting is stable, the first turn has the first of the least keys, the last the last of the greatest. */
-        private void putTurnOrNull(Row a, int k, Row out) {
-            if (a.length(0) == 0) {
-                out.putNull();
-            } else {
-                putTurn(a, k, out);
-            }
-        }
-
-        private void putSorted(Row a, Row out) {
+        private static void putSorted(Row a, Sorter sorter, Row out) {
             int head = out.open();
             for (int k = 0; k < a.length(0); k++) {
-                putTurn(a, k, out);
+                out.putCopy(a, sorter.elementAtTurn(k));
             }
             out.close(head, ARRAY, a.length(0));
         }
 
-        private boolean beginsGroup(Row keys, int k) {
+        /** As sorting is stable, the first turn has the first of the least keys, the last the last of the greatest. */
+        private static void putTurnOrNull(Row a, int k, Sorter sorter, Row out) {
+            if (a.length(0) == 0) {
+                out.putNull();
+            } else {
+                out.putCopy(a, sorter.elementAtTurn(k));
+            }
+        }
+
+        private static boolean beginsGroup(Row keys, int k, Sorter sorter) {
             return k == 0 || Order.of(keys, sorter.keyAtTurn(k - 1), keys, sorter.keyAtTurn(k), 0) != 0;
         }
 
-        private void putGroups(Row a, Row keys, Row out) {
+        private static void putGroups(Row a, Row keys, Sorter sorter, Row out) {
             int head = out.open();
             int total = 0;
             for (int k = 0; k < a.length(0); k++) {
-                if (beginsGroup(keys, k)) {
-                    putGroup(a, keys, k, out);
+                if (beginsGroup(keys, k, sorter)) {
+                    putGroup(a, keys, k, sorter, out);
                     total++;
                 }
             }
             out.close(head, ARRAY, total);
         }
 
-        private void putGroup(Row a, Row keys, int first, Row out) {
+        private static void putGroup(Row a, Row keys, int first, Sorter sorter, Row out) {
             int head = out.open();
-            putTurn(a, first, out);
+            out.putCopy(a, sorter.elementAtTurn(first));
             int behind = first + 1;
-            while (behind < a.length(0) && !beginsGroup(keys, behind)) {
-                putTurn(a, behind, out);
+            while (behind < a.length(0) && !beginsGroup(keys, behind, sorter)) {
+                out.putCopy(a, sorter.elementAtTurn(behind));
                 behind++;
             }
             out.close(head, ARRAY, behind - first);
         }
 
-        private void putFirsts(Row a, Row keys, Row out) {
+        private static void putFirsts(Row a, Row keys, Sorter sorter, Row out) {
             int head = out.open();
             int total = 0;
             for (int k = 0; k < a.length(0); k++) {
-                if (beginsGroup(keys, k)) {
-                    putTurn(a, k, out);
+                if (beginsGroup(keys, k, sorter)) {
+                    out.putCopy(a, sorter.elementAtTurn(k));
                     total++;
                 }
             }

@@ -1,7 +1,10 @@
 import java.nio.charset.StandardCharsets;
 import java.util.Arrays;
 
-/** What the tests share: JSON in and out of a ValueBench by its own calls, and a count of the answers that are wrong. */
+/**
+ * What the tests share: JSON in and out of a ValueBench by its own calls, and a count of the answers that are wrong.
+ * To show long values takes more than the 512 calls of the document; the program answers later calls no differently.
+ */
 final class Bench {
     static final String ARGUMENT = "throws.IllegalArgumentException";
     static final String BROKEN = "throws.UnsupportedOperationException";
