@@ -1,4 +1,4 @@
-/** Values of JSON in own memory; the document that it keeps to is DOC.md, its promises are named in README.md. */
+/** Values of JSON in own memory: read, printed, put in order, added, taken apart, searched, sorted and grouped. */
 public final class ValueBench {
     private static final int CAPACITY = 4096;
     private static final int REGISTERS = 8;
@@ -640,7 +640,7 @@ public final class ValueBench {
             return code >= '0' && code <= '9';
         }
 
-        /** The size that the digits tell, of which a 0 at the beginning is the only one; too great, it grows no more. */
+        /** The size that the digits tell; behind a 0 at the beginning none belongs to it; too great, it grows no more. */
         private long digits() {
             long size = source.at(at) - '0';
             at++;
@@ -870,7 +870,7 @@ public final class ValueBench {
         }
     }
 
-    /** Puts keys, values that lie in one row, in ORDER, and what they are the keys of; the same keys stay as they came. */
+    /** Puts keys, values that lie in one row, in ORDER, and what they are keys of; the same ones stay as they came. */
     private static final class Sorter {
         // No array that prints in 4096 bytes has more elements.
         private static final int MOST = 2048;

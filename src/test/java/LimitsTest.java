@@ -2,6 +2,7 @@
 public final class LimitsTest {
     public static void main(String[] args) {
         depth();
+        differentAtTheDeepest();
         deepObjects();
         refusedBeforeLimits();
         length();
@@ -42,6 +43,33 @@ public final class LimitsTest {
         x.bench.binary(3, 0, 0, 0);
         String inner = sixty.substring(1, sixty.length() - 1);
         Bench.due("+ of arrays 60 deep", x.shown(3), "[" + inner + "," + inner + "]");
+    }
+
+    private static Bench wrappedToSixty(String first, String second) {
+        Bench x = new Bench().with(0, first).with(1, "[0]");
+        for (int k = 0; k < 20; k++) {
+            wrap(x);
+        }
+        x.bench.sort(2, 0, 0, 1);
+        x.with(0, second);
+        for (int k = 0; k < 20; k++) {
+            wrap(x);
+        }
+        return x;
+    }
+
+    private static void differentAtTheDeepest() {
+        String inner = "{\"a\":".repeat(39);
+        String closing = "}".repeat(39) + "]";
+        Bench x = wrappedToSixty("[" + inner + "7" + closing, "[" + inner + "8" + closing);
+        Bench.due("compare of values that differ 60 deep", x.bench.compare(2, 0), -1);
+        Bench.due("compare of values that differ 60 deep, turned", x.bench.compare(0, 2), 1);
+        Bench.due("same of values that differ 60 deep", x.bench.same(0, 2), false);
+        x.bench.two(3, 1, 0, 2);
+        Bench.due("contains of values that differ 60 deep", x.shown(3), "false");
+        Bench y = wrappedToSixty("[" + inner + "\"ab\"" + closing, "[" + inner + "\"b\"" + closing);
+        y.bench.two(3, 1, 2, 0);
+        Bench.due("contains of a part 60 deep", y.shown(3), "true");
     }
 
     /** Objects within one another, with a value in the last. */
