@@ -640,7 +640,7 @@ public final class ValueBench {
             return code >= '0' && code <= '9';
         }
 
-        /** The size that the digits tell; behind a 0 at the beginning none belongs to it; too great, it grows no more. */
+        /** The size that the digits tell, all of them but behind a first 0; one that is too great grows no more. */
         private long digits() {
             long size = source.at(at) - '0';
             at++;
