@@ -144,6 +144,57 @@ final class Bench {
         due("sort f " + f + " of " + brief(a) + " by " + brief(keys), sort(f, a, keys), want);
     }
 
+    static void dueRead(String json, String want) {
+        Bench x = new Bench().tape(json);
+        String outcome = x.outcome(() -> x.bench.read(3));
+        due("read of " + brief(json), outcome, String.valueOf(want.length()));
+        due("value of " + brief(json), x.shown(3), want);
+        due("place of " + brief(json), x.bench.count(2), -1);
+        due("tape behind " + brief(json), x.bench.count(0), 0);
+    }
+
+    static void dueBroken(String json, int place) {
+        Bench x = new Bench().with(3, "[7]").tape(json);
+        due("read of " + brief(json), x.outcome(() -> x.bench.read(3)), BROKEN);
+        due("place of " + brief(json), x.bench.count(2), place);
+        due("tape behind " + brief(json), x.bench.count(0), 0);
+        due("reason of " + brief(json), x.bench.count(3), 0);
+        due("register after " + brief(json), x.shown(3), "[7]");
+    }
+
+    /** That two values stand in this order, both ways round, and are the same only if it is 0. */
+    static void dueOrder(String a, String b, int order) {
+        ValueBench bench = new Bench().with(0, a).with(7, b).bench;
+        due("compare of " + brief(a) + " and " + brief(b), bench.compare(0, 7), order);
+        due("compare of " + brief(b) + " and " + brief(a), bench.compare(7, 0), -order);
+        due("same of " + brief(a) + " and " + brief(b), bench.same(0, 7), order == 0);
+        due("same of " + brief(b) + " and " + brief(a), bench.same(7, 0), order == 0);
+    }
+
+    /** Each value before all that come later, and the same as itself. */
+    static void dueAscending(String... values) {
+        for (int i = 0; i < values.length; i++) {
+            for (int j = i; j < values.length; j++) {
+                dueOrder(values[i], values[j], i == j ? 0 : -1);
+            }
+        }
+    }
+
+    /** The answers that a sentence of the document asks for; it is told if one of them is wrong or none was looked at. */
+    static void sentence(String words, Runnable test) {
+        int checkedBefore = checked;
+        int wrongBefore = wrong;
+        try {
+            test.run();
+        } catch (RuntimeException e) {
+            due("a call", e.toString(), "no exception");
+        }
+        if (checked == checkedBefore || wrong != wrongBefore) {
+            wrong = Math.max(wrong, wrongBefore + 1);
+            System.out.println("does not hold: " + words);
+        }
+    }
+
     static void due(String call, Object got, Object want) {
         checked++;
         if (!got.equals(want)) {
@@ -154,6 +205,18 @@ final class Bench {
 
     static String brief(String text) {
         return text.length() <= 200 ? text : text.substring(0, 200) + ".. (" + text.length() + ")";
+    }
+
+    /** A character as it stands PRINTED. */
+    static String printed(int code) {
+        int letter = "\b\t\n\f\r".indexOf(code);
+        if (letter >= 0) {
+            return "\\" + "btnfr".charAt(letter);
+        }
+        if (code == '"' || code == '\\') {
+            return "\\" + (char) code;
+        }
+        return code < 32 || code == 127 ? String.format("\\u%04x", code) : String.valueOf((char) code);
     }
 
     /** A string in JSON of one letter many times. */

@@ -31,19 +31,13 @@ public final class OrderTest {
         }
     }
 
-    private static void dueSame(String a, String b) {
-        ValueBench bench = new Bench().with(0, a).with(7, b).bench;
-        Bench.due("compare of " + a + " and " + b, bench.compare(0, 7), 0);
-        Bench.due("same of " + a + " and " + b, bench.same(0, 7), true);
-    }
-
     private static void sameInAnyOrder() {
-        dueSame("{\"a\":1,\"b\":2,\"c\":3}", "{\"c\":3,\"a\":1,\"b\":2}");
-        dueSame("[{\"a\":{\"x\":[1],\"y\":2},\"b\":2}]", "[{\"b\":2,\"a\":{\"y\":2,\"x\":[1]}}]");
-        dueSame("-0", "0");
-        dueSame("\"\\u0041\\/\"", "\"A/\"");
+        Bench.dueOrder("{\"a\":1,\"b\":2,\"c\":3}", "{\"c\":3,\"a\":1,\"b\":2}", 0);
+        Bench.dueOrder("[{\"a\":{\"x\":[1],\"y\":2},\"b\":2}]", "[{\"b\":2,\"a\":{\"y\":2,\"x\":[1]}}]", 0);
+        Bench.dueOrder("-0", "0", 0);
+        Bench.dueOrder("\"\\u0041\\/\"", "\"A/\"", 0);
         String deep = "[".repeat(40) + "1" + "]".repeat(40);
-        dueSame(deep, deep);
+        Bench.dueOrder(deep, deep, 0);
         String other = "[".repeat(40) + "2" + "]".repeat(40);
         ValueBench bench = new Bench().with(0, deep).with(1, other).bench;
         Bench.due("compare of two that differ 40 deep", bench.compare(0, 1), -1);

@@ -7,21 +7,10 @@ public final class PrintTest {
         Bench.finish();
     }
 
-    private static String printed(int code) {
-        int letter = "\b\t\n\f\r".indexOf(code);
-        if (letter >= 0) {
-            return "\\" + "btnfr".charAt(letter);
-        }
-        if (code == '"' || code == '\\') {
-            return "\\" + (char) code;
-        }
-        return code < 32 || code == 127 ? String.format("\\u%04x", code) : String.valueOf((char) code);
-    }
-
     private static void everyCharacter() {
         for (int code = 0; code < 128; code++) {
             Bench x = new Bench().with(0, String.format("{\"\\u%04X\":\"\\u%04x\"}", code, code));
-            String want = "{\"" + printed(code) + "\":\"" + printed(code) + "\"}";
+            String want = "{\"" + Bench.printed(code) + "\":\"" + Bench.printed(code) + "\"}";
             Bench.due("print of character " + code, x.shown(0), want);
             Bench.due("length of character " + code, x.bench.print(0), want.length());
         }
