@@ -90,6 +90,8 @@ final class Bench {
         due("register 0 after a call that makes register 2", first, a);
         due("register 1 after a call that makes register 2", second, b);
         if (outcome.equals("done")) {
+            with(3, third);
+            due("register 2 is the same as what it prints: " + brief(third), bench.same(2, 3), true);
             return third;
         }
         due("register 2 after a call that throws", third, OLD);

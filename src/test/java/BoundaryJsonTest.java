@@ -205,6 +205,7 @@ public final class BoundaryJsonTest {
         Bench.dueBroken("{a:1}", 1);
         Bench.dueBroken("{1:1}", 1);
         Bench.dueBroken("{:1}", 1);
+        Bench.dueBroken("{:x", 1);
         Bench.dueBroken("{]", 1);
         Bench.dueBroken("{}}", 2);
         Bench.dueBroken("}", 0);

@@ -165,6 +165,9 @@ public final class BoundaryOperatorsTest {
         Bench.dueBinary(DIVIDE, "\"ab\"", "\"abc\"", "[\"ab\"]");
         Bench.dueBinary(DIVIDE, "\"aaa\"", "\"aa\"", "[\"\",\"a\"]");
         Bench.dueBinary(DIVIDE, "\"aab\"", "\"ab\"", "[\"a\",\"\"]");
+        Bench.dueBinary(DIVIDE, "\"a\\u0000b\"", "\"\\u0000\"", "[\"a\",\"b\"]");
+        Bench.dueBinary(DIVIDE, "\"\\u0000\"", "\"a\"", "[\"\\u0000\"]");
+        Bench.dueBinary(DIVIDE, "\"a\"", "\"a\\u0000\"", "[\"a\"]");
     }
 
     private static void allCharacters() {
@@ -247,6 +250,9 @@ public final class BoundaryOperatorsTest {
         Bench.dueBinary(TIMES, "94906267", "94906267", Bench.RANGE);
         // 2^32 * 2^32 is 0 in 64 bits, 2^33 * (2^31 + 1) is 2^33 there.
         Bench.dueBinary(TIMES, "4294967296", "4294967296", Bench.RANGE);
+        Bench.dueBinary(TIMES, "4294967296", "-4294967296", Bench.RANGE);
+        Bench.dueBinary(TIMES, "-4294967296", "4294967296", Bench.RANGE);
+        Bench.dueBinary(TIMES, "-4294967296", "-4294967296", Bench.RANGE);
         Bench.dueBinary(TIMES, "8589934592", "2147483649", Bench.RANGE);
         Bench.dueBinary(TIMES, GREATEST, GREATEST, Bench.RANGE);
         Bench.dueBinary(TIMES, "-" + GREATEST, "-" + GREATEST, Bench.RANGE);

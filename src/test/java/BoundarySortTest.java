@@ -91,7 +91,10 @@ public final class BoundarySortTest {
     private static void nullWithout() {
         Bench.dueSort(LEAST, "[]", "[]", "null");
         Bench.dueSort(GREATEST, "[]", "[]", "null");
-        Bench.dueSort(LEAST, "[null]", "[1]", "null");
+        for (String element : new String[] {"null", "false", "0", "65536", "\"\"", "[]", "{}"}) {
+            Bench.dueSort(LEAST, "[" + element + "]", "[1]", element);
+            Bench.dueSort(GREATEST, "[" + element + "]", "[1]", element);
+        }
     }
 
     private static void byOrder() {

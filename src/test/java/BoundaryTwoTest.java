@@ -82,6 +82,7 @@ public final class BoundaryTwoTest {
         Bench.dueTwo(HAS, "{\"a\":false,\"ab\":null}", "\"ab\"", "true");
         Bench.dueTwo(HAS, "{\"ab\":1}", "\"a\"", "false");
         Bench.dueTwo(HAS, "{\"a\":1}", "\"ab\"", "false");
+        Bench.dueTwo(HAS, "{\"a\":1}", "\"a\\u0000\"", "false");
         Bench.dueTwo(HAS, "{\"a\":{\"b\":1}}", "\"b\"", "false");
         Bench.dueTwo(HAS, "{\"a\":\"b\"}", "\"b\"", "false");
     }
@@ -111,6 +112,8 @@ public final class BoundaryTwoTest {
         Bench.dueTwo(CONTAINS, "\"abc\"", "\"ac\"", "false");
         Bench.dueTwo(CONTAINS, "\"aab\"", "\"ab\"", "true");
         Bench.dueTwo(CONTAINS, "\"a\\u0000b\"", "\"b\"", "true");
+        Bench.dueTwo(CONTAINS, "\"a\"", "\"a\\u0000\"", "false");
+        Bench.dueTwo(CONTAINS, "\"a\"", "\"\\u0000\"", "false");
     }
 
     private static void containsElements() {
@@ -216,6 +219,8 @@ public final class BoundaryTwoTest {
             Bench.dueTwo(f, "\"ab\"", "\"xab\"", "\"ab\"");
             Bench.dueTwo(f, "\"ab\"", "\"abx\"", "\"ab\"");
             Bench.dueTwo(f, "\"\"", "\"a\"", "\"\"");
+            Bench.dueTwo(f, "\"a\"", "\"a\\u0000\"", "\"a\"");
+            Bench.dueTwo(f, "\"a\"", "\"\\u0000a\"", "\"a\"");
             for (String a : VALUES) {
                 for (String x : VALUES) {
                     if (kind(a) != '"' || kind(x) != '"') {
@@ -236,6 +241,8 @@ public final class BoundaryTwoTest {
         Bench.dueTwo(BEGINS, "\"ab\"", "\"abc\"", "false");
         Bench.dueTwo(BEGINS, "\"ab\"", "\"b\"", "false");
         Bench.dueTwo(BEGINS, "\"\"", "\"a\"", "false");
+        Bench.dueTwo(BEGINS, "\"a\"", "\"a\\u0000\"", "false");
+        Bench.dueTwo(BEGINS, "\"\"", "\"\\u0000\"", "false");
     }
 
     private static void ends() {
@@ -246,6 +253,8 @@ public final class BoundaryTwoTest {
         Bench.dueTwo(ENDS, "\"ab\"", "\"cab\"", "false");
         Bench.dueTwo(ENDS, "\"ab\"", "\"a\"", "false");
         Bench.dueTwo(ENDS, "\"\"", "\"a\"", "false");
+        Bench.dueTwo(ENDS, "\"a\"", "\"\\u0000a\"", "false");
+        Bench.dueTwo(ENDS, "\"\"", "\"\\u0000\"", "false");
     }
 
     private static void beginsAndEndsOfOthers() {
@@ -262,6 +271,8 @@ public final class BoundaryTwoTest {
         Bench.dueTwo(INDICES, "\"ab\"", "\"c\"", "[]");
         Bench.dueTwo(INDICES, "\"ab\"", "\"abc\"", "[]");
         Bench.dueTwo(INDICES, "\"\"", "\"a\"", "[]");
+        Bench.dueTwo(INDICES, "\"a\"", "\"a\\u0000\"", "[]");
+        Bench.dueTwo(INDICES, "\"\\u0000\\u0000\"", "\"\\u0000\"", "[0,1]");
     }
 
     private static void indicesOfEmpty() {
