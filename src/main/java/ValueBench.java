@@ -1,4 +1,7 @@
-/** Values of JSON in own memory: read, printed, put in order, added, taken apart, searched, sorted and grouped. */
+/**
+ * Values of JSON in own memory: read, printed, put in order, added, taken apart, searched, sorted and grouped, each
+ * made value counted and weighed.
+ */
 public final class ValueBench {
     private static final int CAPACITY = 4096;
     private static final int REGISTERS = 8;
@@ -343,12 +346,29 @@ public final class ValueBench {
             int at = object + 1;
             for (int k = 0; k < length(object); k++) {
                 int value = after(at);
-                if (cell(at) == other.cell(name) && hasPart(at, 0, other, name)) {
+                if (cell(at) == other.cell(name) && orderOfStrings(at, other, name) == 0) {
                     return value;
                 }
                 at = after(value);
             }
             return NOWHERE;
+        }
+
+        /** The ORDER of a string here and one of another row; calls go deepest to this one, so it makes none. */
+        int orderOfStrings(int string, Row other, int second) {
+            if (string < 0 || string >= size || second < 0 || second >= other.size) {
+                return 0;
+            }
+            int here = (int) (cells[string] >> KIND_BITS) & LENGTH_MASK;
+            int there = (int) (other.cells[second] >> KIND_BITS) & LENGTH_MASK;
+            int shared = here < there ? here : there;
+            for (int k = 1; k <= shared && string + k < size && second + k < other.size; k++) {
+                long difference = cells[string + k] - other.cells[second + k];
+                if (difference != 0) {
+                    return difference < 0 ? -1 : 1;
+                }
+            }
+            return here == there ? 0 : here < there ? -1 : 1;
         }
 
         /** Whether the characters of a string stand in this one from a place on. */
@@ -496,7 +516,10 @@ public final class ValueBench {
                 out.add('\\');
                 out.add(letter);
             } else if (code < ' ' || code == LAST_CODE) {
-                out.addWord("\\u00");
+                out.add('\\');
+                out.add('u');
+                out.add('0');
+                out.add('0');
                 out.add(DIGITS.charAt(code >> 4 & 15));
                 out.add(DIGITS.charAt(code & 15));
             } else {
@@ -657,7 +680,8 @@ public final class ValueBench {
                 return false;
             }
             while (at < source.size() && source.at(at) != '"') {
-                int code = source.at(at) == '\\' ? escaped() : plain();
+                boolean escape = source.at(at) == '\\';
+                int code = !escape ? plain() : source.at(at + 1) == 'u' ? fourDigits() : letter();
                 if (code == NOWHERE) {
                     return false;
                 }
@@ -674,18 +698,16 @@ public final class ValueBench {
             return code >= ' ' && code < LAST_CODE ? code : brokenCode(at);
         }
 
-        private int escaped() {
-            int start = at;
+        private int letter() {
             at++;
-            if (source.at(at) == 'u') {
-                return fourDigits(start);
-            }
             int code = codeOf(source.at(at));
             return code == NOWHERE ? brokenCode(at) : code;
         }
 
-        private int fourDigits(int start) {
+        private int fourDigits() {
+            int start = at;
             int code = 0;
+            at++;
             for (int k = 0; k < 4; k++) {
                 at++;
                 int digit = digitOf(source.at(at));
@@ -795,7 +817,7 @@ public final class ValueBench {
                 case NUMBER:
                     return Long.compare(a.number(i), b.number(j));
                 case STRING:
-                    return ofStrings(a, i, b, j);
+                    return a.orderOfStrings(i, b, j);
                 case ARRAY:
                     return ofArrays(a, i, b, j, depth);
                 case OBJECT:
@@ -807,16 +829,6 @@ public final class ValueBench {
 
         static boolean isSame(Row a, int i, Row b, int j) {
             return a.cell(i) == b.cell(j) && of(a, i, b, j, 0) == 0;
-        }
-
-        private static int ofStrings(Row a, int i, Row b, int j) {
-            int shared = Math.min(a.length(i), b.length(j));
-            for (int k = 0; k < shared; k++) {
-                if (a.code(i, k) != b.code(j, k)) {
-                    return Integer.compare(a.code(i, k), b.code(j, k));
-                }
-            }
-            return Integer.compare(a.length(i), b.length(j));
         }
 
         private static int ofArrays(Row a, int i, Row b, int j, int depth) {
@@ -843,7 +855,7 @@ public final class ValueBench {
             for (int k = 0; k < shared; k++) {
                 left = nextName(a, i, left);
                 right = nextName(b, j, right);
-                int names = ofStrings(a, left, b, right);
+                int names = a.orderOfStrings(left, b, right);
                 if (names != 0) {
                     return names;
                 }
@@ -860,8 +872,8 @@ public final class ValueBench {
             int least = NOWHERE;
             int name = object + 1;
             for (int k = 0; k < row.length(object); k++) {
-                boolean behind = last == NOWHERE || ofStrings(row, name, row, last) > 0;
-                if (behind && (least == NOWHERE || ofStrings(row, name, row, least) < 0)) {
+                boolean behind = last == NOWHERE || row.orderOfStrings(name, row, last) > 0;
+                if (behind && (least == NOWHERE || row.orderOfStrings(name, row, least) < 0)) {
                     least = name;
                 }
                 name = row.after(row.after(name));
